@@ -818,6 +818,7 @@ public final class SmellRace {
                 default:
                     break;
             }
+            // Not by isInside: calls would go nine deep from out() on.
             boolean inside = x >= 0 && x < width && y >= 0 && y < height;
             return inside ? ROW_LENGTH * y + x : NONE;
         }
