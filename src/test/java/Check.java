@@ -42,8 +42,12 @@ final class Check {
         return race;
     }
 
+    static int wrongAnswers() {
+        return wrong;
+    }
+
     static void end(String test) {
-        System.out.println(test + ": " + looked + " answers, " + wrong + " wrong");
+        System.out.println(test + ": " + (looked - wrong) + " passed, " + wrong + " failed");
         if (wrong != 0) {
             System.exit(1);
         }

