@@ -649,6 +649,24 @@ final class EdgesOfHours {
         way("if 0 < 1 then 4 else 1 / 0", 4);
     }
 
+    // "hour; east, south: its X, Y; blows: the WIND; smells ..; near ..; which; strong; placed"
+    static void p10VarsOfSteers() {
+        String bay = "row mooo; row oooo; row oooo; boat h 0 0 0 0; boat a 2 2 0 0; boat b 3 1 4 9; boat c 0 1 3 0; wind = hour + 2; steers = ";
+        String[] vars = {"hour", "east", "south", "blows", "smells", "near", "which", "strong", "placed"};
+        int[] now = {0, 3, 1, 3, 0, -1, 2, 4, 1};
+        int[] then = {1, 3, 1, 4, 1, 3, 2, 4, 1};
+        for (int i = 0; i < vars.length; i++) {
+            SmellRace race = Check.race(bay + "if which < 2 then 0 else if 2 < which then 0 else " + vars[i] + " + 1;");
+            Check.same("now, steers = " + vars[i], race.steers(2), (now[i] + 1) % 5);
+            SmellRace later = Check.race(bay + "if hour < 1 then 0 else " + vars[i] + " + 1; lies = 9;");
+            later.go(3, 1);
+            later.go(3, 1);
+            later.go(3, 1);
+            later.hours(1);
+            Check.same("in hour 1, steers = " + vars[i], later.steers(2), (then[i] + 1) % 5);
+        }
+    }
+
     // "near: the least number of these (-1: none)"
     static void p10NearAndSmellsOfNone() {
         way("near + 5", 4);

@@ -479,6 +479,37 @@ final class EdgesOfTexts {
         }
     }
 
+    // whatever was read ahead of it, with a fault or without, nothing of that stays
+    static void p04ATextBehindOtherTexts() {
+        String[] texts = {
+            "row oooom; row ooooo; boat a 0 0 3 9; boat b 1 0 1 9; boat c 1 1 1 2; lies = 9; wind = 2; steers = 3; cold 100; seed 5;",
+            "row oor; boat d 0 0 0 0; steers = if hour < 3 then 0 else 1 + east * 2; cold 30; seed 77;",
+            "row oo; boat a 0 0 0 0; boat b 0 0 0 0;", "row oo; boat a 0 0 0 0; boat b 0 0 0 0; cold 50; steers = 0;", "",
+            "row ooo; boat a 0 0 0 0; wind = 1; steers = 4; lies = 7; cold 9; #", "row o;".repeat(6),
+            "row oo; boat b 0 0 0 0; boat b 0 0 0 0;", "row oo; boat b 10 0 0 0; cold 77; seed 6; lies = 5;", "row mm; row m;",
+            "row or; boat b 1 0 0 0; wind = 3;"};
+        int good = 5;
+        for (String first : texts) {
+            for (String second : texts) {
+                for (int i = 0; i < good; i++) {
+                    SmellRace race = new SmellRace();
+                    Check.feed(race, first);
+                    race.read();
+                    Check.feed(race, second);
+                    race.read();
+                    Check.feed(race, texts[i]);
+                    Check.same("read of " + texts[i], race.read(), 0);
+                    SmellRace due = Check.race(texts[i]);
+                    for (int hour = 0; hour < 6; hour++) {
+                        Check.holds("as on a new object: " + texts[i] + " behind " + first + " and " + second, Edge.all(race).equals(Edge.all(due)));
+                        race.hours(1);
+                        due.hours(1);
+                    }
+                }
+            }
+        }
+    }
+
     static void p04OnesOnTheMarkAreHome() {
         SmellRace race = Check.race("row mom; boat a 1 0 0 0; boat b 2 0 1 0; boat c 0 0 1 0;");
         Check.same("a", race.boat(0, 2), -2);

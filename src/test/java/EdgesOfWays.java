@@ -181,6 +181,15 @@ final class EdgesOfWays {
         Check.same("none between", Check.race("row moooo; boat a 2 0 9 0; boat b 4 0 0 0; steers = 0;").hidden(0), -2);
     }
 
+    // "in a CELL in which it would lay its DISH": no other cell, whichever corner it is
+    static void p20OutOfTheWindNobodySmellsIt() {
+        Check.same("b in the first cell", Check.race("row ooom; boat a 1 0 9 0; boat b 0 0 0 0; steers = 0;").hidden(0), 2);
+        Check.same("b in the last cell", Check.race("row mooo; boat a 2 0 9 0; boat b 3 0 0 0; steers = 0; wind = 2;").hidden(0), 2);
+        Check.same("b in the wind", Check.race("row mooo; boat a 2 0 9 0; boat b 3 0 0 0; steers = 0; wind = 0;").hidden(0), -2);
+        String bay = "row ooomoooo;" + "row oooooooo;".repeat(4);
+        Check.same("four corners", Check.race(bay + "boat a 3 2 9 0; boat b 0 0 0 0; boat c 7 0 0 0; boat d 0 4 0 0; boat e 7 4 0 0; steers = 0;").hidden(0), 2);
+    }
+
     // "no other BOAT, neither LOST nor HOME"
     static void p20HomeAndLostOnesCountNot() {
         SmellRace race = Check.race("row oomm; row rooo; boat a 0 0 9 0; boat b 1 1 0 0; boat c 1 1 0 0; steers = 0;");

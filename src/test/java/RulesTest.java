@@ -1,11 +1,13 @@
 import java.io.IOException;
 import java.lang.reflect.Constructor;
 import java.lang.reflect.Field;
+import java.lang.reflect.InvocationTargetException;
 import java.lang.reflect.Member;
 import java.lang.reflect.Method;
 import java.lang.reflect.Modifier;
 import java.nio.file.Files;
 import java.nio.file.Path;
+import java.util.Arrays;
 import java.util.Set;
 import java.util.TreeSet;
 import java.util.regex.Matcher;
@@ -22,8 +24,13 @@ public final class RulesTest {
         "rock(int,int,int)int", "route(int,int)int", "smelt(int,int)int", "soonest(int)int", "steers(int)int",
         "sure(int,int)int", "tell(int,int)int", "then(int,int,int)int", "undo()boolean", "wind(int)int"};
 
-    public static void main(String[] args) throws IOException {
+    private static final int[] EXTREMES = {Integer.MIN_VALUE, -32, -2, -1, 0, 1, 4, 5, 6, 8, 24, 32, 63, 100, 101, 1000, Integer.MAX_VALUE};
+    private static final String[] TEXTS = {"", "row o;", "row oorm; row oooo; boat a 0 0 9 9; boat b 1 1 2 3; lies = 9; cold 40; wind = hour;",
+        "row om; boat a 1 0 0 0; steers = 9999 * 9999 / (hour - 3);"};
+
+    public static void main(String[] args) throws IOException, IllegalAccessException {
         face();
+        noCallThrows();
         source(Files.readString(Path.of("src/main/java/SmellRace.java")));
         Check.end("RulesTest");
     }
@@ -65,6 +72,37 @@ public final class RulesTest {
             }
             Check.holds("fields of " + inside, fields <= 20);
         }
+    }
+
+    /** Each call with each extreme of each argument, in several states; what each call leaves is gone on from. */
+    private static void noCallThrows() throws IllegalAccessException {
+        for (String text : TEXTS) {
+            for (Method m : SmellRace.class.getDeclaredMethods()) {
+                if (Modifier.isPublic(m.getModifiers()) && m.getParameterCount() < 5) {
+                    callWithExtremes(m, Check.race(text));
+                }
+            }
+        }
+    }
+
+    private static void callWithExtremes(Method m, SmellRace race) throws IllegalAccessException {
+        int arguments = m.getParameterCount();
+        int all = (int) Math.pow(EXTREMES.length, arguments);
+        for (int number = 0; number < all; number++) {
+            Object[] values = new Object[arguments];
+            int rest = number;
+            for (int i = 0; i < arguments; i++) {
+                int extreme = EXTREMES[rest % EXTREMES.length];
+                values[i] = m.getParameterTypes()[i] == boolean.class ? (Object) (extreme > 0) : (Object) extreme;
+                rest /= EXTREMES.length;
+            }
+            try {
+                m.invoke(race, values);
+            } catch (InvocationTargetException thrown) {
+                Check.holds(m + Arrays.toString(values) + " threw " + thrown.getCause(), false);
+            }
+        }
+        Check.holds(m + " was called", all > 0);
     }
 
     private static boolean isPrivate(Member member) {
