@@ -856,7 +856,8 @@ final class Model {
         throw new IllegalStateException();
     }
 
-    private int east(int set, int n, int boat) {
+    /** How far to the east each boat is behind n hours, if a set of them puts the pans out. */
+    private int[] east(int set, int n) {
         State s = now.copy();
         for (int k = 0; k < 6; k++) {
             if ((set >> k & 1) == 1) {
@@ -866,7 +867,11 @@ final class Model {
         for (int i = 0; i < n; i++) {
             hour(text, s, text.seed, NONE);
         }
-        return s.lost.contains(boat) ? -1 : s.home.contains(boat) ? 1000 : s.at[boat][0];
+        int[] far = new int[boats()];
+        for (int k = 0; k < boats(); k++) {
+            far[k] = s.lost.contains(k) ? -1 : s.home.contains(k) ? 1000 : s.at[k][0];
+        }
+        return far;
     }
 
     public int out(int n, int i) {
@@ -874,6 +879,10 @@ final class Model {
             return NONE;
         }
         List<Integer> rests = new ArrayList<>();
+        List<int[]> far = new ArrayList<>();
+        for (int set = 0; set < 1 << boats(); set++) {
+            far.add(east(set, n));
+        }
         for (int set = 0; set < 1 << boats(); set++) {
             boolean rest = true;
             for (int k = 0; k < boats(); k++) {
@@ -881,7 +890,7 @@ final class Model {
                 if (now.out.contains(k)) {
                     rest &= !chosen;
                 } else {
-                    rest = rest && east(set ^ 1 << k, n, k) <= east(set, n, k);
+                    rest = rest && far.get(set ^ 1 << k)[k] <= far.get(set)[k];
                 }
             }
             if (rest) {

@@ -7,11 +7,22 @@ import java.util.Comparator;
 import java.util.List;
 import java.util.Random;
 
-/** All promises: runs of calls by seeds, each answer held against the model's. */
+/**
+ * All promises: runs of calls by seeds, each answer held against the model's. Every other run is a lively one: its
+ * texts are of boats that sail long and smell one another, most of its arguments are such that there is an answer,
+ * and its faulty texts have the faults that SYNTAX and ROOM go ahead of.
+ */
 public final class ModelTest {
     private static final String[] VARS = {"hour", "east", "south", "blows", "smells", "near", "which", "strong", "placed"};
+    private static final String[] LIVELY_STEERS = {
+        "1 + (hour + which) / 3 * 2 - near", "if smells < 1 then hour / 2 + which else near + hour",
+        "if near < 0 then 1 + which else if east < 5 then 1 else 2 + smells", "if hour < which then 0 else east + south + smells",
+        "if placed < 1 then blows else 1 + hour", "blows + smells", "hour * strong + 1 - smells", "if blows < 2 then 1 else 2 * near + hour"};
+    private static final String[] LIVELY_WINDS = {"hour", "hour / 3", "hour * hour + 1", "7 - hour", "if hour < 4 then 1 else hour / 2"};
+    private static final String[] LIVELY_LIES = {"strong - east", "hour - which", "9 - south", "4", "which + 2", "if east < 3 then 0 else 6"};
 
     private final Random random;
+    private final boolean lively;
     private final SmellRace race = new SmellRace();
     private final Model model = new Model();
     private final StringBuilder story = new StringBuilder();
@@ -21,6 +32,7 @@ public final class ModelTest {
 
     private ModelTest(long seed) {
         random = new Random(seed);
+        lively = seed % 2 == 1;
     }
 
     public static void main(String[] args) throws ReflectiveOperationException {
@@ -42,19 +54,64 @@ public final class ModelTest {
 
     private void run(List<Method> methods, int run) throws ReflectiveOperationException {
         for (int calls = 0; calls < 400; ) {
-            if (calls == 0 || random.nextInt(90) == 0) {
+            if (calls == 0 || random.nextInt(lively ? 60 : 90) == 0) {
                 calls += readText(run);
             }
             Method m = methods.get(random.nextInt(methods.size()));
             if (m.getName().equals("read") || m.getName().equals("feed") && random.nextInt(4) > 0) {
                 continue;
             }
+            if (lively && (m.getName().equals("forget") || m.getName().equals("hours")) && random.nextInt(3) > 0) {
+                continue;
+            }
+            int[] bounds = lively && random.nextInt(10) > 0 ? bounds(m.getName()) : null;
             Object[] args = new Object[m.getParameterCount()];
             for (int i = 0; i < args.length; i++) {
-                args[i] = m.getParameterTypes()[i] == boolean.class ? (Object) random.nextBoolean() : (Object) number();
+                int number = bounds == null ? number() : random.nextInt(Math.max(1, bounds[i]));
+                args[i] = m.getParameterTypes()[i] == boolean.class ? (Object) random.nextBoolean() : (Object) number;
             }
+            askForNumbers(m.getName(), args);
+            tellWhatMayBe(m.getName(), args);
             compare(m, args, run);
             calls++;
+        }
+    }
+
+    /** Of each argument the first number above those for which there is an answer; null where all are alike. */
+    private int[] bounds(String call) {
+        int boats = race.count(2);
+        int width = race.count(0);
+        int height = race.count(1);
+        int told = race.count(10) + 1;
+        return switch (call) {
+            case "boat" -> new int[] {boats, 8};
+            case "cell" -> new int[] {width, height, 3};
+            case "laid" -> new int[] {width, height, boats, 2};
+            case "wind" -> new int[] {1000};
+            case "steers", "soonest", "hidden", "ranked" -> new int[] {boats};
+            case "hours" -> new int[] {5};
+            case "go", "inPlace" -> new int[] {boats, 7};
+            case "pan", "smelt", "tell" -> new int[] {boats, boats};
+            case "then" -> new int[] {boats, 30, 3};
+            case "many", "bare", "leader" -> new int[] {101, 2};
+            case "route" -> new int[] {boats, 6};
+            case "met" -> new int[] {boats, boats, 101};
+            case "cover", "hold", "restore" -> new int[] {3};
+            case "out" -> new int[] {25, 12};
+            case "odds" -> new int[] {boats, 101, 21};
+            case "lost" -> new int[] {2};
+            case "fried" -> new int[] {told};
+            case "sure" -> new int[] {told, boats};
+            case "rock" -> new int[] {61, random.nextBoolean() ? 4 : 1 << boats, 6};
+            case "count" -> new int[] {14};
+            default -> null;
+        };
+    }
+
+    /** RESTS and ROCKS are asked for their number as often as for one of them. */
+    private void askForNumbers(String call, Object[] args) {
+        if (lively && (call.equals("out") || call.equals("rock")) && random.nextBoolean()) {
+            args[args.length - 1] = -1;
         }
     }
 
@@ -72,6 +129,20 @@ public final class ModelTest {
                 return -1;
             default:
                 return random.nextInt(7);
+        }
+    }
+
+    /** Most that is told may be so all at once, or no way would be left soon: pans are of the boats, the last one's first. */
+    private void tellWhatMayBe(String call, Object[] args) {
+        if (lively && call.equals("tell") && random.nextInt(8) > 0) {
+            int boats = race.count(2);
+            for (int k = 0; k < boats; k++) {
+                int dish = Integer.numberOfTrailingZeros(race.boat(k, 5) & -1 << random.nextInt(boats));
+                if (dish < boats) {
+                    args[0] = k;
+                    args[1] = boats - 1 - dish;
+                }
+            }
         }
     }
 
@@ -125,7 +196,65 @@ public final class ModelTest {
 
     // ---- texts ----
 
+    private String livelyText() {
+        List<String> tells = new ArrayList<>();
+        int width = 4 + random.nextInt(5);
+        int height = 2 + random.nextInt(4);
+        char[][] bay = new char[height][width];
+        for (char[] row : bay) {
+            for (int x = 0; x < width; x++) {
+                row[x] = "oooooooooooooooooorrmm".charAt(random.nextInt(22));
+            }
+        }
+        int boats = 2 + random.nextInt(5);
+        for (int k = 0; k < boats; k++) {
+            int x = random.nextInt(width);
+            int y = random.nextInt(height);
+            bay[y][x] = 'o';
+            tells.add("boat b" + (char) ('a' + k) + " " + x + " " + y + " " + random.nextInt(10) + " " + random.nextInt(10));
+        }
+        for (char[] row : bay) {
+            tells.add("row " + new String(row));
+        }
+        tells.add("steers = " + oneOf(LIVELY_STEERS));
+        tells.add("wind = " + oneOf(LIVELY_WINDS));
+        tells.add("lies = " + oneOf(LIVELY_LIES));
+        tells.add("cold " + (random.nextBoolean() ? 0 : random.nextInt(70)));
+        tells.add("seed " + random.nextInt(10000));
+        for (int i = random.nextInt(3) == 0 ? 1 + random.nextInt(3) : 0; i > 0; i--) {
+            flaw(tells, random.nextInt(tells.size()));
+        }
+        return String.join(random.nextBoolean() ? ";" : " ;\n", tells) + ";";
+    }
+
+    private String oneOf(String[] laws) {
+        return random.nextInt(4) == 0 ? law() : laws[random.nextInt(laws.length)];
+    }
+
+    /** A fault of the sorts TWICE, WRONG, BAY, or none, put into one of what is told. */
+    private void flaw(List<String> tells, int which) {
+        String tell = tells.get(which);
+        String[] words = tell.split(" ");
+        if (words[0].equals("boat") && random.nextInt(3) == 0) {
+            words[1] = "b" + (char) ('a' + random.nextInt(6));
+        } else if (words[0].equals("boat")) {
+            words[2 + random.nextInt(4)] = "" + (8 + random.nextInt(4));
+        } else if (words[0].equals("row")) {
+            int p = random.nextInt(words[1].length());
+            String letter = "orrmxz".substring(random.nextInt(6)).substring(0, 1);
+            words[1] = words[1].substring(0, p) + (random.nextInt(3) == 0 ? "" : letter) + words[1].substring(p + 1);
+        } else if (words[0].equals("cold")) {
+            words[1] = "" + (99 + random.nextInt(4));
+        } else if (words[0].equals("seed")) {
+            words[1] = "" + (9998 + random.nextInt(3));
+        }
+        tells.set(which, String.join(" ", words));
+    }
+
     private String text() {
+        if (lively) {
+            return livelyText();
+        }
         List<String> tells = new ArrayList<>();
         int width = 1 + random.nextInt(8);
         int height = 1 + random.nextInt(5);
